@@ -46,9 +46,6 @@ public final class DustySayings {
         if (!Kinds.isKind(kind) || !isWithin(wit, 0, 99) || !Room.isCorner(corner)) {
             return BAD;
         }
-        if (now.isFull()) {
-            return FULL;
-        }
         return now.add(kind, wit, 0, corner);
     }
 
@@ -738,6 +735,9 @@ public final class DustySayings {
         }
 
         int add(int ofKind, int withWit, int withDust, int inCorner) {
+            if (isFull()) {
+                return FULL;
+            }
             kind[size] = ofKind;
             wit[size] = withWit;
             dust[size] = withDust;
@@ -788,7 +788,10 @@ public final class DustySayings {
                 goOver(dustiest);
             }
             for (int i = 0; i < size; i++) {
-                dust[i] = Math.min(BURIED, dust[i] + gathers(i));
+                // none gathers less than 0, so what is buried needs no working out
+                if (!isBuried(i)) {
+                    dust[i] = Math.min(BURIED, dust[i] + gathers(i));
+                }
             }
             for (int i = 0; i < CORNERS; i++) {
                 heeds[i] = held(heeds[i] + drawnIn(i));
@@ -1007,6 +1010,9 @@ public final class DustySayings {
         }
 
         void write(int text, Tape tape) {
+            if (!isWithin(text, 0, MOST_TEXTS - 1)) {
+                return;
+            }
             keys[text] = tape.key;
             leaves[text] = tape.leaves;
             lengths[text] = tape.written;
