@@ -833,18 +833,20 @@ public final class DustySayings {
         }
 
         int gathers(int i) {
-            switch (kind[i]) {
-                case Kinds.QUIP: return quipGathers(i);
-                case Kinds.SALLY: return wit[i] > 80 ? 0 : quipGathers(i);
-                case Kinds.SERMON: return plainBloom(i) + 2;
-                case Kinds.DRONE: return 2 * (plainBloom(i) + 2);
-                case Kinds.REMARK: return 1;
-                default: return plainBloom(i);
+            if (kind[i] == Kinds.REMARK) {
+                return 1;
             }
-        }
-
-        private int quipGathers(int i) {
-            return Math.max(0, plainBloom(i) - 2 * othersBeside(i, Kinds.QUIP));
+            if (kind[i] == Kinds.SALLY && wit[i] > 80) {
+                return 0;
+            }
+            int plain = plainBloom(i);
+            switch (kind[i]) {
+                case Kinds.QUIP:
+                case Kinds.SALLY: return Math.max(0, plain - 2 * othersBeside(i, Kinds.QUIP));
+                case Kinds.SERMON: return plain + 2;
+                case Kinds.DRONE: return 2 * (plain + 2);
+                default: return plain;
+            }
         }
 
         private int plainBloom(int i) {
@@ -1038,7 +1040,7 @@ public final class DustySayings {
                     stack[top] = leaf(step);
                     top++;
                 } else if (step == -'!' && top >= 1) {
-                    stack[top - 1] = truth(stack[top - 1] == 0);
+                    stack[top - 1] = stack[top - 1] == 0 ? 1 : 0;
                 } else if (top >= 2) {
                     top--;
                     stack[top - 1] = join(-step, stack[top - 1], stack[top]);
@@ -1049,25 +1051,21 @@ public final class DustySayings {
 
         private int leaf(int step) {
             int name = step - FIRST_NAME;
-            return isWithin(name, 0, MOST_NAMES - 1) ? names[name] : step;
+            return name >= 0 && name < MOST_NAMES ? names[name] : step;
         }
 
         private static int join(int sign, int a, int b) {
             switch (sign) {
-                case '|': return truth(a != 0 || b != 0);
-                case '&': return truth(a != 0 && b != 0);
-                case '<': return truth(a < b);
-                case '=': return truth(a == b);
-                case '>': return truth(a > b);
+                case '|': return a != 0 || b != 0 ? 1 : 0;
+                case '&': return a != 0 && b != 0 ? 1 : 0;
+                case '<': return a < b ? 1 : 0;
+                case '=': return a == b ? 1 : 0;
+                case '>': return a > b ? 1 : 0;
                 case '+': return a + b;
                 case '-': return a - b;
                 case '*': return a * b;
                 default: return b == 0 ? 0 : a / b;
             }
-        }
-
-        private static int truth(boolean isSo) {
-            return isSo ? 1 : 0;
         }
     }
 
@@ -1133,10 +1131,10 @@ public final class DustySayings {
                 return END;
             }
             int own = bytes[place];
-            if (isWithin(own, 'a', 'z')) {
+            if (own >= 'a' && own <= 'z') {
                 return LETTERS;
             }
-            return isWithin(own, '0', '9') ? DIGITS : SIGN;
+            return own >= '0' && own <= '9' ? DIGITS : SIGN;
         }
 
         private boolean isSignOf(String signs) {

@@ -8,7 +8,9 @@ import java.nio.file.Files;
 import java.nio.file.Path;
 import java.util.ArrayList;
 import java.util.List;
+import java.util.Map;
 import java.util.Set;
+import java.util.TreeMap;
 import java.util.TreeSet;
 import java.util.regex.Matcher;
 import java.util.regex.Pattern;
@@ -107,6 +109,56 @@ public final class LanguageTest {
         for (int length : methodLengths(text)) {
             Due.due("a method of " + length + " lines", length <= 60 ? 1 : 0, 1);
         }
+        Map<String, Set<String>> calls = calls(code);
+        for (String name : calls.keySet()) {
+            int deep = deepest(name, calls, new TreeSet<>());
+            Due.due(name + " goes " + deep + " calls deep: at most eight", deep <= 8 ? 1 : 0, 1);
+        }
+    }
+
+    /** By a method's name the names that stand in it as calls; methods of one name are taken together. */
+    private static Map<String, Set<String>> calls(String code) {
+        Map<String, Set<String>> calls = new TreeMap<>();
+        Map<String, StringBuilder> bodies = new TreeMap<>();
+        String indent = null;
+        StringBuilder body = null;
+        for (String line : code.split("\n")) {
+            Matcher m = Pattern.compile("( {4}| {8})\\w[^=]*?(\\w+)\\([^()]*\\) \\{").matcher(line);
+            if (m.matches() && (indent == null || indent.length() >= m.group(1).length())) {
+                indent = m.group(1);
+                body = bodies.computeIfAbsent(m.group(2), name -> new StringBuilder());
+            } else if (body != null) {
+                body.append(line).append('\n');
+            }
+            if (indent != null && line.equals(indent + "}")) {
+                indent = null;
+                body = null;
+            }
+        }
+        for (String name : bodies.keySet()) {
+            Set<String> called = new TreeSet<>();
+            Matcher m = Pattern.compile("\\b(\\w+)\\(").matcher(bodies.get(name));
+            while (m.find()) {
+                if (bodies.containsKey(m.group(1))) {
+                    called.add(m.group(1));
+                }
+            }
+            calls.put(name, called);
+        }
+        Due.due("names of methods seen", calls.size() > 80 ? 1 : 0, 1);
+        return calls;
+    }
+
+    private static int deepest(String name, Map<String, Set<String>> calls, Set<String> open) {
+        int deep = 0;
+        open.add(name);
+        for (String called : calls.get(name)) {
+            if (!open.contains(called)) {
+                deep = Math.max(deep, deepest(called, calls, open));
+            }
+        }
+        open.remove(name);
+        return 1 + deep;
     }
 
     private static int many(String code, String pattern) {
