@@ -12,6 +12,15 @@ abstract class Edges {
     private static String sentence = "";
     private static int asked = 0;
 
+    static {
+        // no call may throw; if one does, its sentence is named all the same
+        Thread.setDefaultUncaughtExceptionHandler((thread, thrown) -> {
+            System.out.println("[" + sentence + "] answer " + (asked + 1) + " did not come:");
+            thrown.printStackTrace(System.out);
+            System.exit(1);
+        });
+    }
+
     /** Begins a sentence of a promise, with a new object. */
     static DustySayings sentence(int promise, String words) {
         sentence = "promise " + promise + ": " + words;

@@ -339,6 +339,8 @@ public final class EveningsEdgesTest extends Edges {
         is(x.room(5), 5);
         x.heed(3, 49);
         is(x.room(5), 3);
+        x.heed(1, 48);
+        is(x.room(5), 1);
         x.heed(0, 0);
         x.heed(1, 0);
         is(x.room(5), 0);
@@ -349,6 +351,10 @@ public final class EveningsEdgesTest extends Edges {
         is(y.room(3), 513);
         sentence(15, "CORNERS in which SAYINGS are, as a set");
         is(y.room(4), 33);
+        y.moves(0, 1);
+        is(y.room(4), 35);
+        y.moves(9, 2);
+        is(y.room(4), 39);
         sentence(15, "DUST of all, together, above 99");
         is(y.room(2), 2 * 99 + 8 * 98);
     }

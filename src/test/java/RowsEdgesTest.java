@@ -138,8 +138,11 @@ public final class RowsEdgesTest extends Edges {
         is(checked(x, 30, rows), 60);
         rows[59]--;
         tellAll(x, rows);
-        is(x.tell(5), FULL);
         is(x.check(29), 59);
+        sentence(40, "FULL: the 60 numbers that wait stay as they are");
+        tellAll(x, rows);
+        is(x.tell(5), FULL);
+        is(x.check(30), 0);
     }
 
     private static void checkLastEvening() {

@@ -231,7 +231,8 @@ public final class TextsEdgesTest extends Edges {
             }
         }
         sentence(28, "KEY: bloom | fee | fine, and no other word");
-        for (String word : new String[] {"bloo", "blooms", "fe", "fees", "fin", "fines", "find", "w", "d", "f"}) {
+        for (String word : new String[] {"bloo", "blooms", "fe", "fees", "fin", "fines", "find", "w", "d", "f", "gloom",
+            "bleom", "bloon", "bee", "foe", "fed", "dine", "fane", "fife"}) {
             fault(word + " 1", 0);
         }
         fault("1 1", 0);
@@ -267,6 +268,8 @@ public final class TextsEdgesTest extends Edges {
         fault("fine " + times("(", 30), 13);
         fault("fine w+" + times("(w*", 9), 7 + 8 * 3);
         fault("fine " + times("(", 8) + "w+(w)", 15);
+        fault("fine " + times("(", 8) + "!(w)", 14);
+        fault("fine " + times("(!", 8) + "(w)", 21);
         sentence(28, "a ( that is closed is not open within others");
         taken("fine " + times("(", 8) + "w" + times(")", 8) + "+" + times("(", 8) + "w" + times(")", 8));
         taken("fine " + times("(w)+", 20) + "w");
@@ -426,6 +429,10 @@ public final class TextsEdgesTest extends Edges {
         sentence(25, "without & | a PIECE gives what it is, not 1 or 0");
         gives("7", 7);
         gives("(0-3)", -3);
+        sentence(25, "within ( ) there is a whole E, from the loosest on");
+        gives("(0|3)+1", 2);
+        gives("(w=7&d)*5", 5);
+        gives("((w<8|0)+1)*3", 6);
         sentence(25, "both sides are worked out");
         gives("1|w/0", 1);
         gives("0&w/0", 0);

@@ -229,6 +229,12 @@ public final class ThoughtEdgesTest extends Edges {
         z.set(0, WIT, 81);
         z.set(9, WIT, 99);
         is(z.shine(1), 510);
+        DustySayings full = sentence(19, "WIT of these is 99, not less");
+        withSaying(full, SAYING, 50, 0, 5);
+        write(full, "bloom (w<99)*99");
+        is(full.shine(1), 1);
+        write(full, "bloom (w<100)*99");
+        is(full.shine(1), NONE);
         DustySayings far = sentence(19, "for 20 EVENINGS");
         withSaying(far, SALLY, 50, 79, 0);
         far.saying(SERMON, 50, 0);
@@ -443,6 +449,14 @@ public final class ThoughtEdgesTest extends Edges {
         is(y.like(0, 1), 0);
         y.mark(0, 23, 99999);
         is(y.like(0, 1), 99999 - 53);
+        DustySayings z = sentence(23, "the tenth of ten SAYINGS");
+        for (int i = 0; i < 10; i++) {
+            withSaying(z, REMARK, 50, 10 * i, 5);
+        }
+        z.sheet(0, 0, 2);
+        row(z, 0, 90, 91);
+        is(z.like(0, 0), 9);
+        is(z.like(0, 1), 0);
     }
 
     private static void fee() {
