@@ -271,7 +271,7 @@ public final class DustySayings {
             return BAD;
         }
         int best = 0;
-        int least = Integer.MAX_VALUE;
+        int least = Room.BURIED + 1;
         for (int corner = 0; corner < Room.CORNERS; corner++) {
             thought.become(now);
             thought.corner[saying] = corner;
